@@ -138,6 +138,7 @@ public final class TextsTest {
         name("y", 3, 3, 3);
         name("x", 3, 3, 3);
         name("give", 0, 2, 0);
+        value("give", 0);
         TableRocks x = Due.ruled("slack 0;worth turn*100+y*10+x;spills 0;");
         Due.is("standsAt(13, 6, 4)", x.standsAt(13, 6, 4), 615);
         x.set(2, 0, 58);
