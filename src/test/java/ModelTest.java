@@ -3,6 +3,7 @@ import java.util.Random;
 /** Long runs of calls, made of fixed seeds: the program answers each as the model does. */
 public final class ModelTest {
     private static final int RUNS = 400;
+    private static final int TEXT_RUNS = 3000;
     private static final int CALLS = 512;
     private static final int METHODS = 33;
     private static final String[] NAMES = {"rock", "lean", "turn", "y", "x", "give"};
@@ -24,6 +25,14 @@ public final class ModelTest {
             ModelTest test = new ModelTest(run);
             while (test.calls < CALLS) {
                 test.call(run);
+            }
+        }
+        for (int run = RUNS; run < RUNS + TEXT_RUNS; run++) {
+            ModelTest test = new ModelTest(run);
+            if (run % 3 == 0) {
+                test.readMany("run " + run);
+            } else {
+                test.standBy("run " + run);
             }
         }
         Due.end("ModelTest");
@@ -128,8 +137,44 @@ public final class ModelTest {
         same(call, x.set(what, of, v), m.set(what, of, v));
     }
 
+    /** Whole texts and broken ones, as many as a run has calls for. */
+    private void readMany(String call) {
+        while (calls < CALLS - 162) {
+            readText(call);
+        }
+    }
+
+    /** One rule, and how the table stands by it here and there. */
+    private void standBy(String call) {
+        for (int i = 0; i < 8; i++) {
+            int cell = m.told(random.nextInt(4), 4);
+            int height = random.nextInt(5);
+            same(call, x.floor(cell, height), m.floor(cell, height));
+        }
+        for (int leg = 0; leg < 4; leg++) {
+            int kind = random.nextInt(3) == 0 ? random.nextInt(6) : 0;
+            int number = random.nextInt(4);
+            same(call, x.leg(leg, kind, number), m.leg(leg, kind, number));
+            int length = 50 + (kind == 3 ? 50 : 0) + random.nextInt(3) - (kind == 2 || kind == 4 ? 3 : 1) * number;
+            same(call, x.set(0, leg, length), m.set(0, leg, length));
+        }
+        String text = "slack " + either(1) + ";worth " + either(1) + ";spills " + either(1) + ";";
+        for (int i = 0; i < text.length(); i++) {
+            same(call, x.feed(text.charAt(i)), m.feed(text.charAt(i)));
+        }
+        int number = m.text();
+        same(call + " " + text, x.text(), number);
+        same(call, x.force(1), m.force(1));
+        while (calls < CALLS) {
+            int place = random.nextInt(3) == 0 ? random.nextInt(64) : m.count(0);
+            int turn = random.nextInt(8);
+            int what = random.nextInt(6);
+            same(call + " " + text, x.standsAt(place, turn, what), m.standsAt(place, turn, what));
+        }
+    }
+
     private void readText(String call) {
-        if (random.nextBoolean()) {
+        if (random.nextInt(8) == 0) {
             same(call, x.text(), m.text());
         }
         StringBuilder text = new StringBuilder();
@@ -185,7 +230,8 @@ public final class ModelTest {
             return "(" + either(deep - 1) + ")";
         }
         if (sort < 6) {
-            return "" + random.nextInt(random.nextBoolean() ? 10 : random.nextInt(30) == 0 ? 20000 : 9999);
+            boolean isFar = random.nextInt(4) == 0;
+            return "" + random.nextInt(!isFar ? 10 : random.nextInt(8) == 0 ? 20000 : 9999);
         }
         return NAMES[random.nextInt(NAMES.length)];
     }
