@@ -25,17 +25,23 @@ public final class PromiseEdgesTest {
         promise9();
         promise10();
         promise11();
-        promises12And13();
+        promise12();
+        promise13();
         promise14();
         promise15();
         promise16();
         promise17();
         promise18();
-        promises19And22();
-        promises20And21();
-        promises23And24();
-        promises25And26();
-        promises27And28();
+        promise19();
+        promise20();
+        promise21();
+        promise22();
+        promise23();
+        promise24();
+        promise25();
+        promise26();
+        promise27();
+        promise28();
         imageOnce();
         promise29();
         sheetsOfSorts();
@@ -126,6 +132,9 @@ public final class PromiseEdgesTest {
             Due.is("its last height", x.told(63, 6), w[4]);
             Due.is("its first height", x.told(0, 6), 0);
         }
+        for (int cell = 0; cell <= 63; cell++) {
+            x.floor(cell, 9);
+        }
         x.wave(25, 0, 0);
         int[] byRow = {0, 25, 50, 75, 0, 25, 50, 75};
         for (int cell = 0; cell <= 63; cell++) {
@@ -133,7 +142,7 @@ public final class PromiseEdgesTest {
         }
     }
 
-    /** Promise 4: "A LEG becomes one of a KIND and NUMBER: the KIND that it was. BAD." Its LONG is not told: it stays. */
+    /** Promise 4: "A LEG becomes one of a KIND and NUMBER: the KIND that it was. BAD." Its LONG stays. */
     private static void promise4() {
         TableRocks x = new TableRocks();
         x.set(0, 3, 98);
@@ -221,8 +230,12 @@ public final class PromiseEdgesTest {
         Due.is("text()", Due.text(x, SHORTEST), 1);
         Due.is("the tape is empty", x.count(5), 0);
         Due.is("text(): the one ahead is not read again", x.text(), -100);
-        for (int n = 2; n <= 5; n++) {
+        Due.is("text() of a longer one", Due.text(x, "slack not 0;worth not 0;spills not not 0 + 7;"), 2);
+        for (int n = 3; n <= 5; n++) {
             Due.is("text()", Due.text(x, SHORTEST), n);
+            x.force(n);
+            Due.is("worth: nothing of the longer one", x.stands(4), 0);
+            Due.is("spills: nothing of the longer one", x.stands(5), 0);
         }
         Due.is("text() of an empty tape, full", x.text(), TableRocks.FULL);
         Due.is("text(), full", Due.text(x, SHORTEST), TableRocks.FULL);
@@ -283,18 +296,25 @@ public final class PromiseEdgesTest {
         }
     }
 
-    /** Promises 12 and 13: "TURNS at which it is FIRM (bits)." "FEWEST: how many (what 0), the TURN (1). BAD; NONE." */
-    private static void promises12And13() {
+    /** Promise 12: "TURNS at which it is FIRM (bits)." */
+    private static void promise12() {
+        Due.is("firm() at none", firmAt("0").firm(), 0);
+        Due.is("firm() at the first", firmAt("turn=0").firm(), 1);
+        Due.is("firm() at the last", firmAt("turn=7").firm(), 128);
+        Due.is("firm() at all", firmAt("1").firm(), 255);
+    }
+
+    /** Promise 13: "FEWEST: how many (what 0), the TURN (1). BAD; NONE." */
+    private static void promise13() {
         TableRocks x = firmAt("turn=7");
-        Due.is("firm()", x.firm(), 128);
         Due.is("fewest(0)", x.fewest(0), 1);
         Due.is("fewest(1)", x.fewest(1), 7);
+        Due.is("fewest(2)", x.fewest(2), BAD);
         x = firmAt("0");
-        Due.is("firm()", x.firm(), 0);
         Due.is("fewest(0)", x.fewest(0), NONE);
         Due.is("fewest(1)", x.fewest(1), NONE);
-        Due.is("fewest(-1)", x.fewest(-1), BAD);
-        Due.is("fewest(2)", x.fewest(2), BAD);
+        Due.is("fewest(-1), also none", x.fewest(-1), BAD);
+        Due.is("fewest(2), also none", x.fewest(2), BAD);
     }
 
     /** Leg 0 is 9 too long everywhere, and it is firm where E is true. */
@@ -373,33 +393,43 @@ public final class PromiseEdgesTest {
         Due.is("long", x.told(3, 1), 0);
     }
 
-    /** Promises 19 and 22: "SCREWED. NONE." "SIT. NONE." */
-    private static void promises19And22() {
+    /** Promise 19: "SCREWED. NONE." */
+    private static void promise19() {
         TableRocks x = new TableRocks();
-        Due.is("screwed(), firm", x.screwed(), 0);
-        Due.is("sit(), firm", x.sit(), 0);
+        Due.is("screwed(), firm, without a screw", x.screwed(), 0);
+        x.set(0, 1, 53);
+        Due.is("screwed() of a gap -3, without a screw", x.screwed(), NONE);
         x.leg(0, 4, 0);
-        x.set(0, 0, 47);
-        Due.is("screwed() of a gap -1", x.screwed(), NONE);
-        x.set(0, 0, 45);
+        x.set(0, 0, 48);
         Due.is("screwed() of a gap -3", x.screwed(), 1);
-        Due.is("sit() of a gap -3", x.sit(), NONE);
-        x.leg(1, 5, 3);
-        Due.is("sit()", x.sit(), 1);
-        Due.is("screwed()", x.screwed(), 1);
+        x.set(0, 0, 49);
+        Due.is("screwed() of a gap -2", x.screwed(), NONE);
+        x.set(0, 0, 42);
+        Due.is("screwed() of a gap -9", x.screwed(), 3);
+        x.set(0, 0, 39);
+        Due.is("screwed() of a gap -12", x.screwed(), NONE);
     }
 
-    /**
-     * Promises 20 and 21: "BLAME: what is THE TABLE's (what 0), THE FLOOR's (1). -100000: what." "BESIDE: the PLACE
-     * (what 0), TURN (1). BAD; NONE."
-     */
-    private static void promises20And21() {
-        TableRocks x = firmAt("y*8+x=63 and turn=7");
+    /** Promise 20: "BLAME: what is THE TABLE's (what 0), THE FLOOR's (1). -100000: what." */
+    private static void promise20() {
+        TableRocks x = new TableRocks();
+        x.set(0, 0, 59);
         x.floor(28, 4);
         Due.is("blame(0)", x.blame(0), 9);
         Due.is("blame(1)", x.blame(1), 4);
         Due.is("blame(-1)", x.blame(-1), -100000);
         Due.is("blame(2)", x.blame(2), -100000);
+        x.set(4, 0, 6);
+        Due.is("blame(0) at turn 6, and 0", x.blame(0), 9);
+        Due.is("blame(1) at turn 6, and 0", x.blame(1), -4);
+        x.set(4, 0, 7);
+        Due.is("blame(0) at turn 7, and 1", x.blame(0), 9);
+        Due.is("blame(1) at turn 7, and 1", x.blame(1), 0);
+    }
+
+    /** Promise 21: "BESIDE: the PLACE (what 0), TURN (1). BAD; NONE." */
+    private static void promise21() {
+        TableRocks x = firmAt("y*8+x=63 and turn=7");
         Due.is("beside(0)", x.beside(0), 63);
         Due.is("beside(1)", x.beside(1), 7);
         Due.is("beside(-1)", x.beside(-1), BAD);
@@ -407,41 +437,82 @@ public final class PromiseEdgesTest {
         x.set(2, 0, 63);
         Due.is("beside(0), where it stands", x.beside(0), NONE);
         Due.is("beside(1), where it stands", x.beside(1), NONE);
+        Due.is("beside(2), also none", x.beside(2), BAD);
     }
 
-    /** Promises 23 and 24: "JUDGED. BAD: SHEET; -11; NONE." "WHICH. NO: no such SHEET, missing." */
-    private static void promises23And24() {
+    /** Promise 22: "SIT. NONE." */
+    private static void promise22() {
+        TableRocks x = new TableRocks();
+        Due.is("sit(), firm", x.sit(), 0);
+        x.set(0, 0, 47);
+        Due.is("sit() of a gap -3", x.sit(), NONE);
+        x.leg(1, 5, 3);
+        Due.is("sit() of a gap -3, and a sprung one", x.sit(), 1);
+        x.set(0, 0, 23);
+        Due.is("sit() of a gap -27", x.sit(), 9);
+        x.set(0, 0, 22);
+        Due.is("sit() of a gap -28", x.sit(), NONE);
+        x.set(0, 0, 23);
+        x.set(5, 0, 9);
+        Due.is("sit() by all the load", x.sit(), 0);
+    }
+
+    /** Promise 23: "JUDGED. BAD: SHEET; -11; NONE." */
+    private static void promise23() {
         for (int sort = 0; sort <= 2; sort++) {
             TableRocks x = firmAt("turn=1");
             Due.is("judge(3), missing", x.judge(3), -11);
-            Due.is("which(3), missing", x.which(3), TableRocks.NO);
             x.sheet(3, sort, 0);
             Due.is("judge(3) of nothing told", x.judge(3), NONE);
-            Due.is("which(3) of nothing told", x.which(3), -1L);
             x.sheet(3, sort, 1);
             Due.is("judge(3), otherwise", x.judge(3), 0);
-            Due.is("which(3), none", x.which(3), 0);
             x.cell(3, 0, 1);
             Due.is("judge(3), so", x.judge(3), NONE);
-            Due.is("which(3), all", x.which(3), -1L);
             x.sheet(3, sort, 40);
             x.cell(3, 0, 1);
             Due.is("judge(3), the third otherwise", x.judge(3), 2);
-            Due.is("which(3), none", x.which(3), 0);
             x.sheet(3, -1, 0);
             Due.is("judge(3), missing anew", x.judge(3), -11);
+            Due.is("judge(4)", x.judge(4), BAD);
+            Due.is("judge(-1)", x.judge(-1), BAD);
+        }
+    }
+
+    /** Promise 24: "WHICH. NO: no such SHEET, missing." */
+    private static void promise24() {
+        for (int sort = 0; sort <= 2; sort++) {
+            TableRocks x = firmAt("turn=1");
+            Due.is("which(3), missing", x.which(3), TableRocks.NO);
+            x.sheet(3, sort, 0);
+            Due.is("which(3) of nothing told", x.which(3), -1L);
+            x.sheet(3, sort, 1);
+            Due.is("which(3), none", x.which(3), 0);
+            x.cell(3, 0, 1);
+            Due.is("which(3), all", x.which(3), -1L);
+            x.sheet(3, sort, 40);
+            x.cell(3, 0, 1);
+            Due.is("which(3), none", x.which(3), 0);
+            x.sheet(3, -1, 0);
             Due.is("which(3), missing anew", x.which(3), TableRocks.NO);
+            Due.is("which(4)", x.which(4), TableRocks.NO);
+            Due.is("which(-1)", x.which(-1), TableRocks.NO);
+        }
+    }
+
+    /** Promise 25: "DRAWN." */
+    private static void promise25() {
+        for (int seed : new int[] {LEAST, LEAST + 1, -1, 0, 1, MOST - 1, MOST}) {
+            Due.is("drawn(" + seed + "), firm nowhere", firmAt("0").drawn(seed), 9);
+            Due.is("drawn(" + seed + "), firm everywhere", firmAt("1").drawn(seed), 0);
         }
     }
 
     /**
-     * Promises 25 and 26: "DRAWN." "IN n seeds: part 0 above, 1 below the line, in lowest terms. NO: n, part." Of 30 as
-     * many as there are turns drawn of these.
+     * Promise 26: "IN n seeds: part 0 above, 1 below the line, in lowest terms. NO: n, part." Of 30 as many as turns
+     * are drawn of these.
      */
-    private static void promises25And26() {
+    private static void promise26() {
         TableRocks x = firmAt("0");
-        Due.is("drawn(least)", x.drawn(LEAST), 9);
-        Due.is("drawn(most)", x.drawn(MOST), 9);
         for (int turns = 0; turns <= 8; turns++) {
             x = firmAt("turn<" + turns);
             int firm = 0;
@@ -463,26 +534,33 @@ public final class PromiseEdgesTest {
         Due.is("none of 1, below", x.odds(0, 1, 1), 1);
     }
 
-    /**
-     * Promises 27 and 28: "AN IMAGE is kept: TURN." "All that it keeps is as in THE IMAGE: TURN. STATE: there is none."
-     * A later one takes the place of the first; it stays as often as it is gone back to.
-     */
-    private static void promises27And28() {
+    /** Promise 27: "AN IMAGE is kept: TURN." A later one takes the place of the first. */
+    private static void promise27() {
+        TableRocks x = new TableRocks();
+        for (int turn = 0; turn <= 7; turn++) {
+            x.set(4, 0, turn);
+            Due.is("image()", x.image(), turn);
+            Due.is("count(2)", x.count(2), turn);
+        }
+        x.set(4, 0, 3);
+        Due.is("back() to the last", x.back(), 7);
+    }
+
+    /** Promise 28: "All that it keeps is as in THE IMAGE: TURN. STATE: there is none." Once, and once more. */
+    private static void promise28() {
         TableRocks x = new TableRocks();
         Due.is("back(), none", x.back(), STATE);
         x.turn(7);
-        Due.is("image()", x.image(), 7);
+        Due.is("back(), none still", x.back(), STATE);
+        Due.is("count(2)", x.count(2), 7);
+        x.image();
         x.turn(4);
         Due.is("back()", x.back(), 7);
         Due.is("count(2)", x.count(2), 7);
         Due.is("back() at once", x.back(), 7);
         x.turn(1);
-        Due.is("image(), the second", x.image(), 0);
-        x.turn(3);
-        Due.is("back() to the second", x.back(), 0);
-        x.turn(5);
-        Due.is("back() to the second", x.back(), 0);
-        Due.is("count(2)", x.count(2), 0);
+        Due.is("back() once more", x.back(), 7);
+        Due.is("count(2)", x.count(2), 7);
     }
 
     /** "KINDS of LEGS stay" Nor does an image keep TEXTS, THE TAPE or SHEETS; what is changed later is not in it. */
@@ -542,7 +620,8 @@ public final class PromiseEdgesTest {
             Due.is("missing at first", x.judge(sheet), -11);
             Due.is("missing at first", x.cell(sheet, 0, 0), -11);
         }
-        int[][] signs = {{0, 127}, {0, -128}, {0, -1}, {1, 32767}, {1, -32768}, {1, -1}, {2, MOST}, {2, LEAST}, {2, -1}};
+        int[][] signs = {{0, 127}, {0, -128}, {0, -1}, {1, 32767}, {1, -32768}, {1, -1}, {2, MOST}, {2, LEAST},
+            {2, -1}};
         for (int[] s : signs) {
             Due.fill(x, 0, s[0], 5, s[1]);
             Due.is("floors() of height " + s[1], x.floors(0, s[0], 0, 1), 0);
@@ -581,7 +660,10 @@ public final class PromiseEdgesTest {
         Due.is("sheet(0, 0, -1)", x.sheet(0, 0, -1), -14);
     }
 
-    /** Promise 31: "Item i of a SHEET becomes v (of bytes, shorts its lowest 8, 16 bits): 1. BAD: no such SHEET; -11; -12." */
+    /**
+     * Promise 31: "Item i of a SHEET becomes v (of bytes, shorts its lowest 8, 16 bits): 1. BAD: no such SHEET; -11;
+     * -12."
+     */
     private static void promise31() {
         int[][] low = {{0, 255, -1}, {0, 256, 0}, {0, 257, 1}, {0, -254, 2}, {0, -256, 0}, {0, 65538, 2}, {0, LEAST, 0},
             {0, MOST, -1}, {0, 128, -1}, {1, 256, -1}, {1, 65535, -1}, {1, 65536, 0}, {1, 65537, 1}, {1, -65534, 2},
@@ -602,8 +684,8 @@ public final class PromiseEdgesTest {
     }
 
     /**
-     * Promise 32: "n numbers of a SHEET, from item i on, come to another one's (or its own) item j on (as they were): n.
-     * BAD: no such SHEET; -11; -13: they are of unlike sorts; -12 (also with n below 0)."
+     * Promise 32: "n numbers of a SHEET, from item i on, come to another one's (or its own) item j on (as they were):
+     * n. BAD: no such SHEET; -11; -13: they are of unlike sorts; -12 (also with n below 0)."
      */
     private static void promise32() {
         for (int sort = 0; sort <= 2; sort++) {
@@ -713,8 +795,8 @@ public final class PromiseEdgesTest {
     }
 
     /**
-     * Promise 34: "A LEG taken for one of KIND k (0 .. 5), or one under that one (also by others between): LONG. BAD: k;
-     * -11: no such LEG; -13."
+     * Promise 34: "A LEG taken for one of KIND k (0 .. 5), or one under that one (also by others between): LONG. BAD:
+     * k; -11: no such LEG; -13."
      */
     private static void promise34() {
         int[][] taken = {{0, 0, 99}, {1, 1, 99}, {1, 0, 99}, {3, 3, 99}, {3, 1, 99}, {3, 0, 99}, {4, 4, 99}, {4, 2, 99},

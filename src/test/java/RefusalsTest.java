@@ -44,6 +44,7 @@ public final class RefusalsTest {
         taken();
         asking();
         fullOfTexts();
+        fullTape();
         firmOne();
         noneAnswered();
         Due.end("RefusalsTest");
@@ -346,7 +347,27 @@ public final class RefusalsTest {
         }
     }
 
-    /** Promises 17, 18 and 28: "how thick. STATE: it is FIRM." "ROCK then. STATE: it is FIRM." "STATE: there is none." */
+    /** Promise 7: "BAD; FULL." Of a tape whose text has room: it is read as it was. */
+    private static void fullTape() {
+        each(RefusalsTest::fullOfOneText);
+        for (int letter : new int[] {0, 32, 59, 255}) {
+            refused("feed(" + letter + ") of a full tape", FULL, x -> x.feed(letter));
+        }
+        for (int bad : new int[] {-1, 256, LEAST, MOST}) {
+            refused("feed(" + bad + ") of a full tape", BAD, x -> x.feed(bad));
+        }
+        TableRocks x = fullOfOneText();
+        x.feed(33);
+        Due.is("text() of a full tape", x.text(), 1);
+    }
+
+    private static TableRocks fullOfOneText() {
+        TableRocks x = new TableRocks();
+        Due.feed(x, "slack0;worth7;spills8;" + " ".repeat(138));
+        return x;
+    }
+
+    /** Promises 17, 18, 28: "how thick. STATE: it is FIRM." "ROCK then. STATE: it is FIRM." "STATE: there is none." */
     private static void firmOne() {
         each(TableRocks::new);
         refused("wedge(), firm", STATE, x -> x.wedge());

@@ -42,9 +42,13 @@ public final class SentencesTest {
     private static String sentences(String whole) {
         int first = whole.indexOf("## Terms");
         int behind = whole.indexOf("## Not promised");
-        Due.is("the document has 'Terms' and, behind its promises, 'Not promised'", first >= 0 && behind > first ? 1 : 0, 1);
-        String use = "An object is used for at most 512 calls";
-        String ahead = whole.substring(whole.indexOf(use), whole.indexOf("\n", whole.indexOf(use)));
+        int use = whole.indexOf("An object is used for at most 512 calls");
+        boolean isWhole = use >= 0 && first > use && behind > first;
+        Due.is("the document begins, has 'Terms', and ends with 'Not promised'", isWhole ? 1 : 0, 1);
+        if (!isWhole) {
+            return "";
+        }
+        String ahead = whole.substring(use, whole.indexOf("\n", use));
         String text = ahead + "\n" + whole.substring(first, behind);
         text = text.replaceAll("(?m)^#.*$", "").replaceAll("(?m)^```.*$", "");
         text = text.replaceAll("(?m)^==== [0-9] ", "").replaceAll("(?m)^`[^`]*`: ", "");

@@ -381,6 +381,8 @@ public final class StandEdgesTest {
     /** "BEST: of all 64 PLACES and 8 TURNS those of most worth;" */
     private static void best() {
         bestSo("y*8+x=0 and turn=0", 0, 0, 1);
+        bestSo("y*8+x=0 and turn=1", 0, 1, 1);
+        bestSo("y*8+x=1 and turn=0", 1, 0, 1);
         bestSo("y*8+x=63 and turn=7", 63, 7, 1);
         bestSo("y*8+x=0 and turn=7", 0, 7, 1);
         bestSo("y*8+x=63 and turn=0", 63, 0, 1);
@@ -766,8 +768,8 @@ public final class StandEdgesTest {
     }
 
     /**
-     * "JUDGED: a SHEET tells which knocks are heard, at the TURN of now, and then as it is turned upward step by step: 0
-     * it is FIRM, else 1 LEGS 0 and 2 bear it, 2 LEGS 1 and 3 do: the first (from 0) that is otherwise; NONE."
+     * "JUDGED: a SHEET tells which knocks are heard, at the TURN of now, and then as it is turned upward step by step:
+     * 0 it is FIRM, else 1 LEGS 0 and 2 bear it, 2 LEGS 1 and 3 do: the first (from 0) that is otherwise; NONE."
      */
     private static void judged() {
         TableRocks x = Due.uneven(7, 0, 0, 0);
@@ -787,6 +789,8 @@ public final class StandEdgesTest {
         x = Due.uneven(0, 7, 0, 0);
         judgeSo(x, NONE, 2, 0, 1, 0);
         judgeSo(x, 0, 1, 0, 1, 0);
+        judgeSo(Due.uneven(1, 0, 0, 0), NONE, 1, 0, 2);
+        judgeSo(Due.uneven(0, 1, 0, 0), NONE, 2, 0, 1);
         x = Due.ruled("slack 7;worth 0;spills 0;");
         x.floor(28, 7);
         judgeSo(x, NONE, 0, 0, 0);
